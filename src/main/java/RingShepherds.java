@@ -767,12 +767,12 @@ public final class RingShepherds {
 
         int bestMove(int moon, int k) {
             int best = 0;
-            int least = lossIn(k);
-            for (int by = 1; by < ring.places; by++) {
+            int least = 0;
+            for (int by = 0; by < ring.places; by++) {
                 trial.copy(ring);
                 trial.moveMoon(moon, by);
                 int loss = trial.goOnBy(k);
-                if (loss < least) {
+                if (by == 0 || loss < least) {
                     least = loss;
                     best = by;
                 }

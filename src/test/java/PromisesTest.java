@@ -240,6 +240,13 @@ public final class PromisesTest {
         fault("ring 4  ", 8);
         fault("rin", 0);
         fault("rings 4;", 0);
+        fault("ringa 4;", 0);
+        fault("ringz 4;", 0);
+        fault("king 4;", 0);
+        fault("ring`4;", 4);
+        fault("ring{4;", 4);
+        fault("ring 4/", 6);
+        fault("ring 4:", 6);
         fault("Ring 4;", 0);
         fault(" ; ring 4;", 1);
         fault("4;", 0);
@@ -256,6 +263,9 @@ public final class PromisesTest {
         fault("ring 4;ring 4;", 7);
         fault("ring 4; ring", 8);
         fault("ring 4;st", 7);
+        fault("ring 4;soon 0 0 0 0;", 7);
+        fault("ring 4;bumps 0 0 0;", 7);
+        fault("ring 4;stem 0 0;", 7);
         fault("ring 4;stepstep 0 0;", 7);
         fault("ring 4;step", 11);
         fault("ring 4;step 0", 13);
@@ -749,10 +759,27 @@ public final class PromisesTest {
         c.due("not so now", y.taken(0, 0), 402);
         y.told(4, 6);
         c.due("none is missed", y.taken(0, -1), 0);
+        allMayBeTaken();
         int before = y.status(0);
         for (int v : new int[] {-1, 61, MIN, MAX}) c.due("taken by k", y.taken(v, 0), -10);
         for (int v : new int[] {-2, MIN}) c.due("taken by i", y.taken(0, v), -10);
         c.due("each is BAD, -5 is not", y.status(0) - before, 6);
+    }
+
+    /** Two passes of three MOONS lose everything, so each PLACE of the 120 may have been the one. */
+    private static void allMayBeTaken() {
+        RingShepherds x = still(24);
+        for (int lane = 0; lane < 5; lane++) {
+            for (int place = 0; place < 24; place++) x.lumps(lane, place, 1 + place);
+        }
+        x.moon(PLAIN, 4, 0, 1);
+        x.moon(PLAIN, 1, 0, 1);
+        x.moon(STRONG, 2, 0, 1);
+        c.due("all are LOST", x.loss(60), 5 * 300);
+        c.due("all may be taken", x.taken(60, -1), 120);
+        c.due("the first of all", x.taken(60, 0), 0);
+        c.due("the last of all", x.taken(60, 119), 423);
+        c.due("behind the last", x.taken(60, 120), -5);
     }
 
     private static void game(RingShepherds x, int n, int ahead, int lane) {
