@@ -4,17 +4,34 @@ import java.nio.charset.StandardCharsets;
 final class Checks {
     private int made;
     private int wrong;
+    private String sentence = "";
+
+    /** The sentence of the document that the next answers belong to; it is told with a wrong one. */
+    void by(String sentence) {
+        this.sentence = sentence + ": ";
+    }
 
     void due(String what, long got, long want) {
         made++;
         if (got != want) {
             wrong++;
-            System.out.println(what + " answered " + got + ", due is " + want);
+            System.out.println(sentence + what + " answered " + got + ", due is " + want);
         }
     }
 
     void holds(String what, boolean is) {
         due(what, is ? 1 : 0, 1);
+    }
+
+    /** P places, and all else of the ring as at first. */
+    void asAtFirst(String when, RingShepherds x, int p) {
+        due(when + " PLACES", x.count(0), p);
+        for (int what = 1; what <= 5; what++) due(when + " count(" + what + ")", x.count(what), 0);
+        for (int lane = 0; lane < 5; lane++) {
+            due(when + " STEP of " + lane, x.step(lane, 5 - lane), 5 - lane);
+            due(when + " COUNTS of " + lane, x.told(lane, 0), 0);
+            for (int place = 0; place < p; place++) due(when + " LUMPS", x.there(lane, place), 0);
+        }
     }
 
     void end() {

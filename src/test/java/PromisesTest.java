@@ -1,8 +1,8 @@
 /** Each promise of the document by itself; the answers were worked out by hand. */
 public final class PromisesTest {
-    private static final int MIN = Integer.MIN_VALUE;
-    private static final int MAX = Integer.MAX_VALUE;
-    private static final int PLAIN = 0, WIDE = 1, DRAWING = 2, STRONG = 3, SLEEPY = 4;
+    private static final int MIN = Rings.MIN, MAX = Rings.MAX;
+    private static final int PLAIN = Rings.PLAIN, WIDE = Rings.WIDE, DRAWING = Rings.DRAWING, STRONG = Rings.STRONG,
+        SLEEPY = Rings.SLEEPY;
 
     private static final Checks c = new Checks();
 
@@ -39,27 +39,9 @@ public final class PromisesTest {
         c.end();
     }
 
-    /** P places, and no lane goes on by itself. */
-    private static RingShepherds still(int p) {
-        RingShepherds x = new RingShepherds();
-        x.ring(p);
-        for (int lane = 0; lane < 5; lane++) x.step(lane, 0);
-        return x;
-    }
-
-    private static void isFresh(String when, RingShepherds x, int p) {
-        c.due(when + " PLACES", x.count(0), p);
-        for (int what = 1; what <= 5; what++) c.due(when + " count(" + what + ")", x.count(what), 0);
-        for (int lane = 0; lane < 5; lane++) {
-            c.due(when + " STEP of " + lane, x.step(lane, 5 - lane), 5 - lane);
-            c.due(when + " COUNTS of " + lane, x.told(lane, 0), 0);
-            for (int place = 0; place < p; place++) c.due(when + " LUMPS", x.there(lane, place), 0);
-        }
-    }
-
     private static void aNewObject() {
         RingShepherds x = new RingShepherds();
-        isFresh("new:", x, 12);
+        c.asAtFirst("new:", x, 12);
         c.due("new: bytes", x.count(6), 0);
         c.due("new: above", x.part(0), 0);
         c.due("new: below", x.part(1), 1);
@@ -96,7 +78,7 @@ public final class PromisesTest {
         c.due("a refused ring changes nothing", x.ring(25), -2);
         c.due("STRAYS stay", x.count(4), 7);
         c.due("ring(24) again", x.ring(24), 4);
-        isFresh("ring:", x, 24);
+        c.asAtFirst("ring:", x, 24);
         c.due("nothing to undo", x.undo(), -3);
         c.due("THE TEXT stays", x.count(6), 7);
         c.due("THE FRACTION stays", x.part(0), 7);
@@ -210,7 +192,7 @@ public final class PromisesTest {
         x.round();
         int no = x.status(1);
         c.due("read", Checks.read(x, "ring 5;"), 1);
-        isFresh("read:", x, 5);
+        c.asAtFirst("read:", x, 5);
         c.due("bytes stay", x.count(6), 7);
         c.due("THE FRACTION stays", x.part(0), 6);
         c.due("STATUS stays", x.status(1), no);
@@ -315,7 +297,7 @@ public final class PromisesTest {
     }
 
     private static RingShepherds byMoon(int kind, int edge, int place) {
-        RingShepherds x = still(6);
+        RingShepherds x = Rings.still(6);
         for (int lane = 0; lane < 5; lane++) {
             for (int p = 0; p < 6; p++) x.lumps(lane, p, 10 * lane + p + 1);
         }
@@ -394,13 +376,13 @@ public final class PromisesTest {
     }
 
     private static void roundInOrder() {
-        RingShepherds x = still(4);
+        RingShepherds x = Rings.still(4);
         x.lumps(2, 0, 7);
         x.moon(PLAIN, 2, 0, 0);
         x.moon(PLAIN, 3, 0, 0);
         x.moon(PLAIN, 4, 0, 0);
         c.due("three MOONS one behind the other", x.round(), 7);
-        x = still(4);
+        x = Rings.still(4);
         x.lumps(2, 0, 7);
         x.moon(PLAIN, 4, 0, 0);
         x.moon(PLAIN, 3, 0, 0);
@@ -408,7 +390,7 @@ public final class PromisesTest {
         c.due("the other way", x.round(), 0);
         c.due("it went in twice", x.there(0, 0), 7);
 
-        x = still(4);
+        x = Rings.still(4);
         x.step(1, 1);
         x.lumps(1, 3, 2);
         x.moon(PLAIN, 1, 3, 1);
@@ -417,7 +399,7 @@ public final class PromisesTest {
         x.round();
         c.due("then she is gone", x.there(2, 0), 2);
 
-        x = still(4);
+        x = Rings.still(4);
         for (int lane = 0; lane < 5; lane++) x.lumps(lane, 0, 999);
         x.moon(PLAIN, 0, 0, 0);
         x.moon(PLAIN, 1, 0, 0);
@@ -427,7 +409,7 @@ public final class PromisesTest {
     }
 
     private static void undo() {
-        RingShepherds x = still(4);
+        RingShepherds x = Rings.still(4);
         c.due("none", x.undo(), -3);
         x.lumps(4, 0, 5);
         x.lumps(4, 1, 3);
@@ -513,7 +495,7 @@ public final class PromisesTest {
         where("no ROUND", x, 3, 7, 0, 3, 7, 0);
         where("60 ROUNDS", x, 3, 7, 60, 3, 7, 0);
         where("1 ROUND", x, 0, 11, 1, 0, 4, 0);
-        x = still(6);
+        x = Rings.still(6);
         x.step(4, 1);
         x.step(3, 2);
         x.moon(PLAIN, 5, 1, 0);
@@ -524,11 +506,11 @@ public final class PromisesTest {
         x.moon(STRONG, 4, 5, 0);
         where("pushed thrice, LOST where it was", x, 4, 0, 3, -1, 5, 3);
         where("LOST for good", x, 4, 0, 60, -1, 5, 3);
-        x = still(6);
+        x = Rings.still(6);
         x.moon(STRONG, 3, 0, 0);
         where("by 2 is once", x, 3, 1, 1, -1, 1, 1);
         where("from the inner LANE", x, 2, 5, 1, 0, 5, 1);
-        x = still(6);
+        x = Rings.still(6);
         x.moon(SLEEPY, 2, 0, 0);
         x.round();
         x.round();
@@ -537,10 +519,10 @@ public final class PromisesTest {
         x.lumps(2, 0, 1);
         c.due("as it is then", x.round(), 0);
         c.due("it stayed", x.there(2, 0), 1);
-        x = still(6);
+        x = Rings.still(6);
         x.moon(DRAWING, 2, 0, 0);
         where("to and fro", x, 1, 0, 60, 1, 0, 60);
-        x = still(5);
+        x = Rings.still(5);
         x.moon(PLAIN, 2, 4, 3);
         where("as she comes by", x, 2, 0, 2, 3, 0, 1);
         where("not ahead of it", x, 2, 0, 1, 2, 0, 0);
@@ -552,7 +534,7 @@ public final class PromisesTest {
     }
 
     private static void loss() {
-        RingShepherds x = still(4);
+        RingShepherds x = Rings.still(4);
         x.lumps(4, 0, 5);
         x.lumps(4, 1, 6);
         x.lumps(4, 2, 7);
@@ -571,19 +553,19 @@ public final class PromisesTest {
     }
 
     private static void pushes() {
-        RingShepherds x = still(4);
+        RingShepherds x = Rings.still(4);
         x.lumps(4, 0, 5);
         x.lumps(4, 1, 2);
         x.moon(PLAIN, 4, 0, 0);
         c.due("pushes(0)", x.pushes(0), 0);
         c.due("in once", x.pushes(1), 5);
         c.due("in once, then it is away", x.pushes(12), 5);
-        x = still(4);
+        x = Rings.still(4);
         x.lumps(4, 0, 3);
         x.moon(DRAWING, 5, 0, 0);
         x.moon(PLAIN, 4, 0, 0);
         c.due("in once: PLAIN takes it further in", x.pushes(12), 3);
-        x = still(4);
+        x = Rings.still(4);
         x.lumps(0, 0, 3);
         x.moon(PLAIN, 2, 0, 0);
         x.moon(DRAWING, 0, 0, 0);
@@ -597,14 +579,14 @@ public final class PromisesTest {
         c.due("one that can not is enough", x.pushes(1), -1);
 
         // a MOON that comes to it in ROUND 3 only, when a push in time is as good as any
-        x = still(8);
+        x = Rings.still(8);
         x.lumps(4, 0, 7);
         x.moon(PLAIN, 4, 5, 1);
         c.due("not yet", x.pushes(2), 0);
         c.due("in time", x.pushes(3), 7);
 
         // from LANES 3 and 4 it is LOST, and from LANE 2 it comes to 3: a push in each ROUND
-        x = still(4);
+        x = Rings.still(4);
         x.lumps(3, 0, 2);
         x.moon(STRONG, 3, 0, 0);
         x.moon(STRONG, 0, 0, 0);
@@ -620,7 +602,7 @@ public final class PromisesTest {
     }
 
     private static void moved() {
-        RingShepherds x = still(6);
+        RingShepherds x = Rings.still(6);
         x.lumps(4, 0, 5);
         x.lumps(4, 1, 2);
         x.lumps(4, 2, 3);
@@ -637,12 +619,12 @@ public final class PromisesTest {
         c.due("of like ones the least", x.moved(0, 1), 0);
         x.moon(PLAIN, 5, 2, 0);
         c.due("another MOON", x.moved(1, 1), 0);
-        RingShepherds y = still(6);
+        RingShepherds y = Rings.still(6);
         y.lumps(4, 2, 4);
         y.moon(PLAIN, 4, 2, 0);
         y.moon(DRAWING, 4, 0, 0);
         c.due("MOON 1 comes too late to help", y.moved(1, 1), 0);
-        RingShepherds z = still(6);
+        RingShepherds z = Rings.still(6);
         z.lumps(4, 2, 4);
         z.moon(DRAWING, 4, 0, 0);
         z.moon(PLAIN, 4, 2, 0);
@@ -657,7 +639,7 @@ public final class PromisesTest {
         c.due("an empty RING", x.road(11, 60, 0), 0);
         c.due("for all", x.road(11, 60, 1), 61);
         c.due("now alone", x.road(0, 0, 1), 1);
-        x = still(4);
+        x = Rings.still(4);
         x.step(0, 1);
         x.lumps(0, 0, 1);
         c.due("shut now", x.road(0, 0, 0), -1);
@@ -682,7 +664,7 @@ public final class PromisesTest {
     private static void back() {
         RingShepherds x = new RingShepherds();
         c.due("at first", x.back(), 12);
-        x = still(12);
+        x = Rings.still(12);
         c.due("nothing goes", x.back(), 1);
         x.step(1, 8);
         c.due("by 8 of 12", x.back(), 3);
@@ -690,22 +672,22 @@ public final class PromisesTest {
         c.due("and by 6", x.back(), 6);
         x.moon(SLEEPY, 0, 0, 9);
         c.due("and a MOON by 9; that she sleeps does not count", x.back(), 12);
-        x = still(24);
+        x = Rings.still(24);
         x.step(0, 8);
         x.step(4, 9);
         c.due("3 and 8", x.back(), 24);
-        x = still(6);
+        x = Rings.still(6);
         x.step(3, 6);
         c.due("once round", x.back(), 1);
         x.moon(SLEEPY, 0, 0, 3);
         c.due("2", x.back(), 2);
-        x = still(23);
+        x = Rings.still(23);
         x.step(3, 9);
         c.due("23", x.back(), 23);
     }
 
     private static void toldAndTaken() {
-        RingShepherds x = still(4);
+        RingShepherds x = Rings.still(4);
         c.due("told", x.told(0, 9999), 0);
         c.due("told again", x.told(0, 0), 9999);
         for (int v : new int[] {-1, 5, MIN, MAX}) c.due("told by lane", x.told(v, 0), -2);
@@ -749,7 +731,7 @@ public final class PromisesTest {
         c.due("or the one that went out", x.taken(1, 0), 202);
 
         // what would be LOST is not missed
-        RingShepherds y = still(4);
+        RingShepherds y = Rings.still(4);
         y.lumps(4, 2, 6);
         y.lumps(0, 0, 1);
         y.moon(PLAIN, 4, 2, 0);
@@ -768,7 +750,7 @@ public final class PromisesTest {
 
     /** Two passes of three MOONS lose everything, so each PLACE of the 120 may have been the one. */
     private static void allMayBeTaken() {
-        RingShepherds x = still(24);
+        RingShepherds x = Rings.still(24);
         for (int lane = 0; lane < 5; lane++) {
             for (int place = 0; place < 24; place++) x.lumps(lane, place, 1 + place);
         }
@@ -815,7 +797,7 @@ public final class PromisesTest {
         lanes(x, 0, 0, 2, 6, 6);
         game(x, 3, 2, 2);
         game(x, 1, 6, 3);
-        RingShepherds y = still(4);
+        RingShepherds y = Rings.still(4);
         y.lumps(4, 0, 9);
         y.lumps(1, 0, 2);
         y.moon(PLAIN, 4, 0, 0);
@@ -833,7 +815,7 @@ public final class PromisesTest {
     }
 
     private static void fee() {
-        RingShepherds x = still(4);
+        RingShepherds x = Rings.still(4);
         x.lumps(4, 0, 5);
         x.moon(PLAIN, 4, 0, 0);
         fee(x, 0, 0, 0, 1);
@@ -843,7 +825,7 @@ public final class PromisesTest {
         fee(x, 1, 1, 5, 2);
 
         // DRAWING ahead of PLAIN saves what PLAIN would lose
-        x = still(4);
+        x = Rings.still(4);
         x.lumps(4, 0, 3);
         x.moon(DRAWING, 4, 0, 0);
         x.moon(PLAIN, 4, 0, 0);
@@ -851,13 +833,13 @@ public final class PromisesTest {
         fee(x, 1, 1, 3, 2);
 
         // each of the MOONS is needed
-        x = still(4);
+        x = Rings.still(4);
         x.lumps(2, 0, 1);
         x.moon(PLAIN, 2, 0, 0);
         x.moon(PLAIN, 3, 0, 0);
         x.moon(PLAIN, 4, 0, 0);
         for (int moon = 0; moon < 3; moon++) fee(x, moon, 1, 1, 3);
-        x = still(4);
+        x = Rings.still(4);
         x.lumps(1, 0, 6);
         for (int edge = 1; edge <= 4; edge++) x.moon(PLAIN, edge, 0, 0);
         for (int moon = 0; moon < 4; moon++) fee(x, moon, 1, 3, 2);
@@ -879,7 +861,7 @@ public final class PromisesTest {
     }
 
     private static void images() {
-        RingShepherds x = still(4);
+        RingShepherds x = Rings.still(4);
         x.lumps(4, 0, 5);
         x.moon(PLAIN, 4, 3, 1);
         x.told(2, 8);
@@ -1011,7 +993,7 @@ public final class PromisesTest {
     }
 
     private static void count() {
-        RingShepherds x = still(7);
+        RingShepherds x = Rings.still(7);
         x.lumps(4, 0, 30);
         x.lumps(2, 6, 4);
         x.lumps(0, 3, 1);
@@ -1038,7 +1020,7 @@ public final class PromisesTest {
         for (int lane = 0; lane < 5; lane++) h = fold(h, 5 - lane, 0, 0, 0, 0, 0, 0, 0, 0, 0, 0, 0, 0, 0);
         c.due("digest of a new one", x.digest(), fold(h, 0, 1));
 
-        x = still(4);
+        x = Rings.still(4);
         x.lumps(4, 0, 5);
         x.lumps(1, 2, 6);
         x.step(3, 7);
