@@ -9,6 +9,7 @@ public final class KeptEdgesTest {
     public static void main(String[] args) {
         aNewObject();
         aNewRing();
+        nothingIsLeftBehindTheLastPlace();
         undoOfNone();
         undoOfSixAtMost();
         undoTakesBack();
@@ -19,6 +20,7 @@ public final class KeptEdgesTest {
         nothingToUndoInANewRing();
         imagesOfNone();
         imagesKeepAll();
+        imagesKeepTheirPlaces();
         imagesLeaveOut();
         imagesKeepWhatMayBeUndone();
         imagesAreApart();
@@ -60,6 +62,25 @@ public final class KeptEdgesTest {
                 c.due("it goes round by its own P", x.round(), 5);
                 c.due("she, too", x.about(0, 2), 0);
             }
+        }
+    }
+
+    private static void nothingIsLeftBehindTheLastPlace() {
+        c.by("P PLACES, all as at first: also those that were not there in between");
+        for (int way = 0; way < 2; way++) {
+            RingShepherds x = new RingShepherds();
+            x.ring(24);
+            for (int lane = 0; lane < 5; lane++) x.lumps(lane, 23, 7);
+            x.round();
+            if (way == 0) x.ring(4);
+            else c.due("read", Checks.read(x, "ring 4;"), 1);
+            c.due("no LUMPS", x.count(1), 0);
+            x.lumps(4, 3, 5);
+            x.round();
+            c.due("round by 4 PLACES", x.there(4, 0), 5);
+            x.ring(24);
+            c.due("none came back", x.count(1), 0);
+            for (int lane = 0; lane < 5; lane++) c.due("at any PLACE", x.there(lane, 23) + x.there(lane, 4), 0);
         }
     }
 
@@ -265,6 +286,28 @@ public final class KeptEdgesTest {
             c.due("all as it was", x.digest(), twin.digest());
             c.holds("and all that was ahead of it", Rings.everything(x).equals(Rings.everything(twin)));
         }
+    }
+
+    private static void imagesKeepTheirPlaces() {
+        c.by("IMAGES 0, 1 keep all: P, too");
+        RingShepherds x = new RingShepherds();
+        x.ring(24);
+        x.image(0);
+        x.ring(4);
+        x.image(1);
+        x.from(0);
+        c.due("24 PLACES", x.count(0), 24);
+        c.due("the last of 24", x.lumps(0, 23, 1), 0);
+        c.due("a MOON there", x.moon(PLAIN, 0, 23, 1), 0);
+        x.round();
+        c.due("round by 24", x.there(0, 4) + x.there(1, 4), 1);
+        x.from(1);
+        c.due("4 PLACES", x.count(0), 4);
+        c.due("the last of 4", x.lumps(0, 3, 1), 0);
+        c.due("none behind it", x.lumps(0, 4, 1), -2);
+        c.due("no MOON", x.count(2), 0);
+        x.round();
+        c.due("round by 4", x.there(0, 0), 1);
     }
 
     private static void imagesLeaveOut() {

@@ -28,6 +28,8 @@ public final class RingEdgesTest {
         sleepyByTheRound();
         underTheOneTold();
         moreThanMayBeTold();
+        thereInAll();
+        as512Calls();
         c.end();
     }
 
@@ -452,5 +454,50 @@ public final class RingEdgesTest {
         c.due("1998", x.there(3, 0), 1998);
         c.due("what was there", x.lumps(3, 0, 999), 1998);
         c.due("none is LOST by it", x.count(4), 0);
+    }
+
+    private static void thereInAll() {
+        c.by("LUMPS in a LANE at a PLACE (NONE: in all). BAD: -10");
+        RingShepherds x = Rings.still(24);
+        x.step(1, 5);
+        for (int lane = 0; lane < 5; lane++) {
+            c.due("in an empty LANE", x.there(lane, RingShepherds.NONE), 0);
+            c.due("at its first PLACE", x.there(lane, 0), 0);
+            c.due("at its last PLACE", x.there(lane, 23), 0);
+        }
+        for (int place = 0; place < 24; place++) x.lumps(1, place, 999);
+        c.due("in a full LANE", x.there(1, -1), 24 * 999);
+        x.lumps(1, 0, 1);
+        x.lumps(1, 23, 0);
+        x.round();
+        c.due("in all, behind a ROUND", x.there(1, -1), 22 * 999 + 1);
+        c.due("the one", x.there(1, 5), 1);
+        c.due("none", x.there(1, 4), 0);
+        c.due("in another LANE", x.there(0, -1), 0);
+        c.due("below NONE", x.there(1, -2), -10);
+        c.due("NONE is no LANE", x.there(-1, 0), -10);
+        c.due("nor is it with all PLACES", x.there(-1, -1), -10);
+        c.due("behind the last PLACE", x.there(1, 24), -10);
+        c.due("behind the last LANE", x.there(5, -1), -10);
+        c.due("each is BAD", x.status(0), 5);
+    }
+
+    private static void as512Calls() {
+        c.by("An object is used for at most 512 calls");
+        RingShepherds x = new RingShepherds();
+        x.lumps(4, 0, 999);
+        for (int i = 1; i <= 509; i++) x.round();
+        c.due("the 511th call", x.there(4, 509 % 12), 999);
+        c.due("the 512th call", x.count(3), 509);
+        // as many as can be LOST: 999 come back to the MOON ahead of each ROUND
+        RingShepherds y = new RingShepherds();
+        y.moon(PLAIN, 4, 11, 1);
+        y.step(4, 0);
+        for (int i = 0; i < 254; i++) {
+            y.lumps(4, i % 12, 999);
+            c.due("LOST", y.round(), 999);
+        }
+        c.due("STRAYS", y.count(4), 254 * 999);
+        c.due("none is left", y.count(1), 0);
     }
 }

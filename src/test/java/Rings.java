@@ -54,12 +54,12 @@ final class Rings {
         x.moon(MOONS[i][0], MOONS[i][1], MOONS[i][2], MOONS[i][3]);
     }
 
-    /** A rich ring with a text of so many bytes, from 43 on: blanks end it. */
+    /** A rich ring with a text of so many bytes, from 42 on: blanks end it. */
     static RingShepherds withText(int bytes) {
         RingShepherds x = rich(6, 3);
         x.clear();
         Checks.type(x, TEXT);
-        while (x.count(6) < bytes) x.type(32, 1);
+        for (int i = TEXT.length(); i < bytes; i++) x.type(32, 1);
         return x;
     }
 
@@ -76,10 +76,10 @@ final class Rings {
         return all;
     }
 
+    /** One undo more than there may be, so that a past which has no end is seen, too. */
     private static void addWithPast(List<Long> all, RingShepherds x) {
-        do {
-            all.add(x.digest());
-        } while (x.undo() == 1);
+        all.add(x.digest());
+        for (int i = 0; i <= 6 && x.undo() == 1; i++) all.add(x.digest());
     }
 
     /** What digest answers, from what the other calls tell. It changes nothing. */

@@ -44,7 +44,7 @@ public final class TextEdgesTest {
         for (int n = 1; n <= 8; n++) {
             RingShepherds y = new RingShepherds();
             for (int i = 0; i < 30; i++) y.type(0, 8);
-            while (y.count(6) < 250 - n) y.type(0, 1);
+            for (int i = 240; i < 250 - n; i++) y.type(0, 1);
             c.due(n + " and one more do not go in", n < 8 ? y.type(0, n + 1) : y.type(0, 9), n < 8 ? -4 : -2);
             c.due("none of them came", y.count(6), 250 - n);
             c.due("just " + n + " go in", y.type(0, n), 250);
@@ -129,11 +129,11 @@ public final class TextEdgesTest {
 
     private static void words() {
         c.by("words of letters a .. z; a word that is none");
-        for (String word : new String[] {"rin", "ing", "rings", "aring", "ringring", "gnir", "qing", "sing", "rhng", "rjng",
+        for (String word : new String[] {"rin", "ing", "rings", "ringa", "ringz", "aring", "zring", "ringring", "gnir", "qing", "sing", "rhng", "rjng",
             "riog", "rimg", "rinf", "rinh", "a", "z", "step", "lumps", "moon"}) {
             fault(word + " 4;", 0);
         }
-        for (String word : new String[] {"ste", "steps", "tep", "steq", "stop", "lump", "lumpss", "umps", "lumpt", "lamps",
+        for (String word : new String[] {"ste", "steps", "stepa", "stepz", "tep", "steq", "stop", "lump", "lumpss", "umps", "lumpt", "lamps",
             "moo", "moons", "oon", "moom", "noon", "stepmoon", "a", "z"}) {
             fault("ring 4;" + word + " 0 0 0 0;", 7);
         }
