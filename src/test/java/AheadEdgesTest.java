@@ -453,6 +453,19 @@ public final class AheadEdgesTest {
         c.due("what is LOST does not count", y.back(), 8);
         y.round();
         c.due("nor from where", y.back(), 8);
+        // as many MOONS as there may be, and each of them counts
+        for (int goes = 0; goes < 4; goes++) {
+            RingShepherds z = Rings.still(24);
+            for (int moon = 0; moon < 4; moon++) z.moon(PLAIN, 0, 0, moon == goes ? 7 : 0);
+            c.due("of four MOONS number " + goes + " goes", z.back(), 24);
+            z.ring(24);
+            for (int lane = 0; lane < 5; lane++) z.step(lane, 0);
+            for (int moon = 0; moon < 4; moon++) {
+                c.due("MOONS of a RING that is gone do not count", z.back(), 1);
+                z.moon(PLAIN, 0, 0, 0);
+            }
+            c.due("four that stay", z.back(), 1);
+        }
     }
 
     private static void countsAtFirst() {
